@@ -3,6 +3,7 @@ public final class CountTests {
     public static void main(String[] args) {
         counts();
         digests();
+        digestsOfPlans();
         digestsTellStatesApart();
         Due.end();
     }
@@ -55,6 +56,30 @@ public final class CountTests {
                 Due.due("digest() again", digest, x.digest());
             }
         }
+    }
+
+    /** Where twelve years' notes all sound, and where there are events to spare. */
+    private static void digestsOfPlans() {
+        BreathBand x = Due.band("c0", "aa");
+        Model m = new Model();
+        tell(m, 0, "c0");
+        tell(m, 1, "aa");
+        x.bag(99);
+        m.bag(99);
+        Due.due("twelve notes sound", 12, x.years(7, 12, 0));
+        Due.due("digest() of a cornet alone", m.digest(), x.digest());
+        x.bag(3);
+        m.bag(3);
+        for (int e = 0; e < 2; e++) {
+            x.event(0, 0);
+            m.event(0, 0);
+        }
+        Due.due("the first to spare", 0, x.spare(0));
+        Due.due("digest() with one to spare", m.digest(), x.digest());
+        x.bag(1);
+        m.bag(1);
+        Due.due("the other to spare", 1, x.spare(1));
+        Due.due("digest() with two to spare", m.digest(), x.digest());
     }
 
     private static void tell(Model m, int text, String bytes) {

@@ -43,8 +43,13 @@ public final class PlanTests {
         dueFill("as far as the corner", 6, 3, Due.band("h0;c0", "ab;bb;ca"));
         // the cornet takes 3, and the tuba needs 4
         dueFill("the loud one at the end", 7, 4, Due.band("c0;t1", "aa;aa;aa;bb"));
-        BreathBand long99 = Due.band("h3", "aa;xa");
-        dueFill("too far for 99", 2, 1, long99);
+        dueFill("too far for 99", 2, 1, Due.band("h3", "aa;xa"));
+        // nineteen times 5 round the corner, 3 by the theft, and the cornet needs 1
+        BreathBand all = Due.band("c3", "ta");
+        all.event(0, 0);
+        dueFill("just 99", 99, 1, all);
+        all.event(0, 0);
+        dueFill("one theft too many", 1, 0, all);
     }
 
     private static void dueSwap(String what, int first, int other, int many, BreathBand x) {
