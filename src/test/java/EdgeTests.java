@@ -11,6 +11,7 @@ public final class EdgeTests {
         ChanceEdges.all();
         SheetEdges.all();
         CountEdges.all();
+        LaterEdges.all();
         Edge.wholeDocument();
         Due.end();
     }

@@ -20,7 +20,8 @@ final class CountEdges {
     }
 
     private static void counts() {
-        Edge.of(36, "0 PLAYERS, 1 NOTES, 2, 3 bytes of texts, 4 EVENTS, 5 what THE BAG holds at first, 6 how many NOTES SOUND, 7 HEARD,");
+        Edge.of(36, "0 PLAYERS, 1 NOTES, 2, 3 bytes of texts, 4 EVENTS, "
+            + "5 what THE BAG holds at first, 6 how many NOTES SOUND, 7 HEARD,");
         isCounts("new", new BreathBand(), 0, 0, 0, 0, 0, 40, 0, 0);
         BreathBand full = Due.band("c0;c0;c0;c0;c0;c0;c0;c0;c0;c0;c0", "aa;aa;aa;aa;aa;aa;aa;aa;aa;aa;aa;aa;aa;aa;aa;aa");
         full.bag(99);
@@ -32,7 +33,7 @@ final class CountEdges {
         BreathBand faulty = Due.band("c0;", "aa;b");
         faulty.bag(1);
         isCounts("faulty", faulty, 0, 0, 3, 4, 0, 1, 0, 0);
-        isCounts("a hum", Due.band("c0;h0", "aa;ab;ak"), 2, 3, 5, 8, 0, 40, 1, 0);
+        isCounts("one of three sounds", Due.band("c0;h0", "aa;ab;ak"), 2, 3, 5, 8, 0, 40, 1, 0);
     }
 
     private static void findings() {
@@ -131,12 +132,33 @@ final class CountEdges {
     }
 
     private static void digests() {
-        Edge.of(37, "h is 17; h becomes 31 h and each of (of each thing all that is told of it, then of the next one): count() 0 to 7; of texts fault(); of BEATS 0 to 23 at(it, 0 to 2); of NOTES 0 to 15 note() 0, 1; of those that there are heard(), chance(5, it), above, below; of PLAYERS player() 0, 1, takes() 0 to 2, was() 0, 1, ask(); sum() 0 to 2, flat(), silent(), greedy(), fill() 0, 1, swap() 0 to 2, hold() 0, 1, spare(NONE), spare(0), never(), years(7, 12, 0 and 1);");
+        Edge.of(37, "h is 17; h becomes 31 h and each of (of each thing all that is told of it, then of the next one): "
+            + "count() 0 to 7; of texts fault(); of BEATS 0 to 23 at(it, 0 to 2); of NOTES 0 to 15 note() 0, 1; "
+            + "of those that there are heard(), chance(5, it), above, below; "
+            + "of PLAYERS player() 0, 1, takes() 0 to 2, was() 0, 1, ask(); sum() 0 to 2, flat(), silent(), greedy(), fill() 0, 1, "
+            + "swap() 0 to 2, hold() 0, 1, spare(NONE), spare(0), never(), years(7, 12, 0 and 1);");
         isOwn("new", new BreathBand());
         isOwn("players alone", Due.band("t1;h2;c3", ""));
         isOwn("one player", Due.band("c0", "aa;ba"));
         isOwn("notes alone", Due.band("", "aa;bb;ck"));
         isOwn("faults", Due.band("t1;", "aa;b"));
+        BreathBand robbed = Due.band("t0", "aa");
+        robbed.bag(6);
+        robbed.event(0, 0);
+        robbed.event(0, 0);
+        Edge.is("two to spare", 1, robbed.spare(1));
+        isOwn("two to spare", robbed);
+        BreathBand cornet = Due.band("c0", "aa");
+        cornet.bag(99);
+        Edge.is("a cornet alone plays all twelve", 12, cornet.years(7, 12, 0));
+        isOwn("a cornet alone", cornet);
+        cornet.bag(30);
+        Edge.isTrue("another seed, another number", cornet.years(7, 12, 0) != cornet.years(6, 12, 0));
+        isOwn("a cornet with less", cornet);
+        BreathBand two = Due.band("c0;c0;h0", "");
+        two.bag(99);
+        Edge.isTrue("another seed, more or less left", two.years(7, 12, 1) != two.years(6, 12, 1));
+        isOwn("where more or less is left", two);
         BreathBand busy = new BreathBand();
         Edge.busy(busy);
         isOwn("busy", busy);

@@ -2,6 +2,7 @@ import java.io.IOException;
 import java.nio.file.Files;
 import java.nio.file.Path;
 import java.util.ArrayList;
+import java.util.Arrays;
 import java.util.LinkedHashMap;
 import java.util.List;
 import java.util.Map;
@@ -20,14 +21,23 @@ final class Edge {
     private static final Path DOCUMENT = Path.of("../shared/DOC.md");
     private static final List<String[]> SENTENCES = new ArrayList<>();
     private static String now = "";
+    private static int askedBefore = -1;
 
     private Edge() {
     }
 
     /** What follows tests this sentence of this section. */
     static void of(String section, String sentence) {
+        endSentence();
         SENTENCES.add(new String[] {section, sentence});
         now = section + ", \"" + sentence + "\": ";
+        askedBefore = Due.asked();
+    }
+
+    private static void endSentence() {
+        if (Due.asked() == askedBefore) {
+            isTrue("has a test of its own", false);
+        }
     }
 
     static void of(int promise, String sentence) {
@@ -70,6 +80,21 @@ final class Edge {
         }
         told.accept(x);
         return x;
+    }
+
+    /** A new band with these players and notes, so much in the bag, and events: a kind, a beat, and so on. */
+    static BreathBand band(String players, String notes, int bag, int... events) {
+        BreathBand x = Due.band(players, notes);
+        x.bag(bag);
+        for (int e = 0; e + 1 < events.length; e += 2) {
+            x.event(events[e], events[e + 1]);
+        }
+        return x;
+    }
+
+    /** A text of the same thing so many times. */
+    static String times(String thing, int n) {
+        return (thing + ";").repeat(n).substring(0, 3 * n - 1);
     }
 
     /** A band with some of everything: sheets of each form, and one that is lost. */
@@ -176,6 +201,7 @@ final class Edge {
 
     /** Each sentence that a test names stands in the document, and no sentence of it is without a test. */
     static void wholeDocument() throws IOException {
+        endSentence();
         if (!Files.isReadable(DOCUMENT)) {
             System.out.println("no " + DOCUMENT + " to look for sentences in");
             return;
@@ -188,7 +214,7 @@ final class Edge {
             int at = text.indexOf(one[1]);
             Due.due("\"" + one[1] + "\" stands in " + one[0], 1, at >= 0 ? 1 : 0);
             for (; at >= 0; at = text.indexOf(one[1], at + 1)) {
-                java.util.Arrays.fill(tested.get(one[0]), at, at + one[1].length(), true);
+                Arrays.fill(tested.get(one[0]), at, at + one[1].length(), true);
             }
         }
         sections.forEach((name, text) ->

@@ -18,15 +18,6 @@ final class HeardEdges {
         askCalls();
     }
 
-    private static BreathBand band(String players, String notes, int bag, int... events) {
-        BreathBand x = Due.band(players, notes);
-        x.bag(bag);
-        for (int e = 0; e + 1 < events.length; e += 2) {
-            x.event(events[e], events[e + 1]);
-        }
-        return x;
-    }
-
     private static BreathBand hearing(BreathBand x, int... heard) {
         for (int k = 0; k + 1 < heard.length; k += 2) {
             x.hear(heard[k], heard[k + 1]);
@@ -36,7 +27,7 @@ final class HeardEdges {
 
     private static void heard() {
         Edge.terms("HEARD, 8 at most:");
-        BreathBand x = band("h0", "aa", 40, 0, 5);
+        BreathBand x = Edge.band("h0", "aa", 40, 0, 5);
         for (int k = 1; k <= 7; k++) {
             Edge.is("hear(0, 2)", k, x.hear(0, 2));
         }
@@ -49,7 +40,7 @@ final class HeardEdges {
         int[][] ways = {{3, 0}, {9, 1}, {40, 2}};
         for (int[] way : ways) {
             for (int is = 0; is < 3; is++) {
-                BreathBand one = hearing(band("t0", "aa", way[0], 1, 5), 0, is);
+                BreathBand one = hearing(Edge.band("t0", "aa", way[0], 1, 5), 0, is);
                 Edge.is("the bag at " + way[0] + ", heard " + is, is == way[1] ? 1 : 0, one.never());
             }
         }
@@ -58,14 +49,14 @@ final class HeardEdges {
     private static void notesThatAreNot() {
         Edge.terms("a NOTE (0 to 15; of one that there is not it never comes out so)");
         for (int is = 0; is < 3; is++) {
-            BreathBand x = hearing(band("h0", "aa", 40, 0, 5), 1, is);
+            BreathBand x = hearing(Edge.band("h0", "aa", 40, 0, 5), 1, is);
             Edge.is("no second note, " + is + ": never()", 0, x.never());
             Edge.is("no second note, " + is + ": was(0, 0)", 0, x.was(0, 0));
             Edge.is("no second note, " + is + ": was(0, 1)", 0, x.was(0, 1));
-            Edge.is("no sixteenth note, " + is, 0, hearing(band("h0", "aa", 40, 0, 5), 15, is).never());
-            Edge.is("no notes, " + is, 0, hearing(band("h0", "", 40, 0, 5), 0, is).never());
+            Edge.is("no sixteenth note, " + is, 0, hearing(Edge.band("h0", "aa", 40, 0, 5), 15, is).never());
+            Edge.is("no notes, " + is, 0, hearing(Edge.band("h0", "", 40, 0, 5), 0, is).never());
         }
-        BreathBand x = hearing(band("h0", "aa", 40, 0, 5), 1, 0);
+        BreathBand x = hearing(Edge.band("h0", "aa", 40, 0, 5), 1, 0);
         Due.tell(x, 1, ";ak");
         Edge.is("it has come, and is missed", 1, x.never());
         x.undo(1);
@@ -96,7 +87,7 @@ final class HeardEdges {
 
     private static void forget() {
         Edge.of(24, "All that was HEARD is forgotten: how many.");
-        BreathBand x = band("h0", "aa", 40, 0, 5);
+        BreathBand x = Edge.band("h0", "aa", 40, 0, 5);
         Edge.is("none", 0, x.forget());
         for (int k = 0; k < 8; k++) {
             x.hear(0, 0);
@@ -111,27 +102,27 @@ final class HeardEdges {
 
     private static void never() {
         Edge.terms("NEVER: EVENTS each of which, had it alone not been, makes all that was HEARD come out so, as bits.");
-        BreathBand x = band("t0", "aa", 6, 1, 1, 0, 0);
+        BreathBand x = Edge.band("t0", "aa", 6, 1, 1, 0, 0);
         Edge.is("nothing heard", 3, x.never());
         Edge.is("hummed: but for the theft", 2, hearing(x, 0, 1).never());
         Edge.is("all, not one of them", 0, hearing(x, 0, 0).never());
-        Edge.is("alone, not both", 0, hearing(band("t0", "aa", 6, 0, 0, 0, 0), 0, 1).never());
-        Edge.is("either", 3, hearing(band("t0", "aa", 9, 0, 0, 0, 0), 0, 1).never());
-        Edge.is("as it is, but not without", 1, hearing(band("t0", "aa", 6, 2, 0, 0, 0), 0, 0).never());
+        Edge.is("alone, not both", 0, hearing(Edge.band("t0", "aa", 6, 0, 0, 0, 0), 0, 1).never());
+        Edge.is("either", 3, hearing(Edge.band("t0", "aa", 9, 0, 0, 0, 0), 0, 1).never());
+        Edge.is("as it is, but not without", 1, hearing(Edge.band("t0", "aa", 6, 2, 0, 0, 0), 0, 0).never());
         Edge.of(25, "NEVER, as bits.");
-        Edge.is("no events", 0, band("h0", "aa", 40).never());
-        Edge.is("no events, heard", 0, hearing(band("h0", "aa", 40), 0, 2).never());
-        BreathBand eight = band("t0", "aa", 6, 1, 9, 1, 9, 1, 9, 1, 9, 1, 9, 1, 9, 1, 9, 0, 0);
+        Edge.is("no events", 0, Edge.band("h0", "aa", 40).never());
+        Edge.is("no events, heard", 0, hearing(Edge.band("h0", "aa", 40), 0, 2).never());
+        BreathBand eight = Edge.band("t0", "aa", 6, 1, 9, 1, 9, 1, 9, 1, 9, 1, 9, 1, 9, 1, 9, 0, 0);
         Edge.is("eight, nothing heard", 255, eight.never());
         Edge.is("the last of eight", 128, hearing(eight, 0, 1).never());
         eight.back();
         Edge.is("it is undone", 127, eight.never());
-        Edge.is("no players", 1, hearing(band("", "aa", 6, 0, 0), 0, 0).never());
+        Edge.is("no players", 1, hearing(Edge.band("", "aa", 6, 0, 0), 0, 0).never());
     }
 
     /** Behind the first note 12, less what the first lets go, less 1 by the second note. */
     private static BreathBand leaking(int lets) {
-        return band("h" + lets + ";h0", "aa;bb", 13);
+        return Edge.band("h" + lets + ";h0", "aa;bb", 13);
     }
 
     private static void waste() {
@@ -157,16 +148,16 @@ final class HeardEdges {
     private static void sort() {
         Edge.terms("SORT of a PLAYER: 0 t, 1 h, 2 c, in place of one's own, likewise, as bits.");
         for (String own : new String[] {"t0", "h0", "c0"}) {
-            Edge.is(own + ", nothing heard", 7, band(own, "aa", 3).was(0, 1));
-            Edge.is(own + ", hummed with 3: h and c", 6, hearing(band(own, "aa", 3), 0, 1).was(0, 1));
-            Edge.is(own + ", missed with 3: t", 1, hearing(band(own, "aa", 3), 0, 0).was(0, 1));
-            Edge.is(own + ", hummed with 1: c", 4, hearing(band(own, "aa", 1), 0, 1).was(0, 1));
-            Edge.is(own + ", played with 11: h and c", 6, hearing(band(own, "aa", 11), 0, 2).was(0, 1));
-            Edge.is(own + ", a seat away: c", 4, hearing(band("h0;" + own, "ab", 40), 0, 2).was(1, 1));
-            Edge.is(own + ", all", 7, hearing(band(own, "aa", 4), 0, 1).was(0, 1));
-            Edge.is(own + ", none", 0, hearing(band(own, "aa", 40), 0, 1).was(0, 1));
+            Edge.is(own + ", nothing heard", 7, Edge.band(own, "aa", 3).was(0, 1));
+            Edge.is(own + ", hummed with 3: h and c", 6, hearing(Edge.band(own, "aa", 3), 0, 1).was(0, 1));
+            Edge.is(own + ", missed with 3: t", 1, hearing(Edge.band(own, "aa", 3), 0, 0).was(0, 1));
+            Edge.is(own + ", hummed with 1: c", 4, hearing(Edge.band(own, "aa", 1), 0, 1).was(0, 1));
+            Edge.is(own + ", played with 11: h and c", 6, hearing(Edge.band(own, "aa", 11), 0, 2).was(0, 1));
+            Edge.is(own + ", a seat away: c", 4, hearing(Edge.band("h0;" + own, "ab", 40), 0, 2).was(1, 1));
+            Edge.is(own + ", all", 7, hearing(Edge.band(own, "aa", 4), 0, 1).was(0, 1));
+            Edge.is(own + ", none", 0, hearing(Edge.band(own, "aa", 40), 0, 1).was(0, 1));
         }
-        BreathBand x = hearing(band("h0", "aa;aa", 5), 1, 1, 0, 1);
+        BreathBand x = hearing(Edge.band("h0", "aa;aa", 5), 1, 1, 0, 1);
         Edge.is("both of two", 6, x.was(0, 1));
         Edge.is("what is told stays", 1, x.player(0, 0));
     }
@@ -195,25 +186,25 @@ final class HeardEdges {
         Edge.terms("ASK of a PLAYER: the NOTE of which the greatest number of those of WASTE by which it is alike is least");
         Edge.is("two and two", 1, leaking(2).ask(0));
         String missed = "ab;".repeat(15);
-        Edge.is("the last of sixteen", 15, band("h0;h0", missed + "bb", 13).ask(0));
+        Edge.is("the last of sixteen", 15, Edge.band("h0;h0", missed + "bb", 13).ask(0));
         // of 0 to 3: PPPP, PPPH, PHHM, HHMM
-        BreathBand x = band("h0", "aa;ca;ea;fa", 21);
+        BreathBand x = Edge.band("h0", "aa;ca;ea;fa", 21);
         Edge.is("two alike, of three ways", 2, x.ask(0));
         x.hear(2, 1);
         Edge.is("of those left only: 1 and 2 are", 6, x.was(0, 0));
         Edge.is("of those left only", 3, x.ask(0));
         Edge.terms(", of like ones the least;");
         Edge.is("all alike", 0, leaking(2).ask(1));
-        Edge.is("two and two, twice", 1, band("h0;h0", "aa;bb;bb", 13).ask(0));
-        Edge.is("one is left", 0, hearing(band("h0;h0", "aa;bb", 12), 1, 2).ask(0));
+        Edge.is("two and two, twice", 1, Edge.band("h0;h0", "aa;bb;bb", 13).ask(0));
+        Edge.is("one is left", 0, hearing(Edge.band("h0;h0", "aa;bb", 12), 1, 2).ask(0));
         Edge.is("none is left", 0, hearing(leaking(2), 1, 2, 1, 0).ask(0));
     }
 
     private static void askCalls() {
         Edge.terms("NONE: there are no NOTES.");
-        Edge.is("no notes", NONE, band("h0", "", 40).ask(0));
-        Edge.is("a fault", NONE, band("h0", "aa;", 40).ask(0));
-        Edge.is("no notes, heard", NONE, hearing(band("h0", "", 40), 0, 0).ask(0));
+        Edge.is("no notes", NONE, Edge.band("h0", "", 40).ask(0));
+        Edge.is("a fault", NONE, Edge.band("h0", "aa;", 40).ask(0));
+        Edge.is("no notes, heard", NONE, hearing(Edge.band("h0", "", 40), 0, 0).ask(0));
         Edge.of(27, "ASK; NONE.");
         BreathBand x = Due.band("h0;h0;h0;h0;h0;h0;h0;h0;h0;h0;h0", "aa;kk;la");
         x.bag(16);
