@@ -34,6 +34,7 @@ public final class FaceTests {
         }
         Due.due("at most some twelve classes", 1, c.getDeclaredClasses().length < 12 ? 1 : 0);
         words();
+        shape();
         Due.end();
     }
 
@@ -64,13 +65,16 @@ public final class FaceTests {
 
     private static void fields(Class<?> c) {
         List<String> seen = new ArrayList<>();
+        int own = 0;
         for (Field f : c.getDeclaredFields()) {
             staticsAreFinal(f);
+            own += Modifier.isStatic(f.getModifiers()) ? 0 : 1;
             if (!Modifier.isPrivate(f.getModifiers())) {
                 Due.due("a constant: " + f, Modifier.PUBLIC | Modifier.STATIC | Modifier.FINAL, f.getModifiers());
                 seen.add(f.getName());
             }
         }
+        Due.due("some twenty fields", 1, own <= 20 ? 1 : 0);
         seen.sort(null);
         Due.dueText("public constants", Arrays.asList("BAD", "FULL", "NONE", "NOT").toString(), seen.toString());
     }
@@ -95,8 +99,29 @@ public final class FaceTests {
         Due.due("final: " + f, 1, !Modifier.isStatic(mods) || Modifier.isFinal(mods) ? 1 : 0);
     }
 
+    private static String source() throws IOException {
+        return Files.readString(Path.of("src/main/java/BreathBand.java"));
+    }
+
+    /** Rules 8, 11 and 12: no recursion, short methods, few parameters, calls eight deep, no call that makes an object. */
+    private static void shape() throws IOException {
+        Shape shape = new Shape(source());
+        Due.dueText("methods of one name", "[]", shape.namedTwice().toString());
+        for (String one : FACE.split(";")) {
+            String name = one.replaceAll(".* (\\w+)\\(.*", "$1");
+            Due.due("seen by a look: " + name, 1, shape.methods().contains(name) ? 1 : 0);
+        }
+        for (String method : shape.methods()) {
+            Due.due("at most sixty lines: " + method, 1, shape.lines(method) <= 60 ? 1 : 0);
+            Due.due("at most seven parameters: " + method, 1, shape.parametersOf(method) <= 7 ? 1 : 0);
+            Due.due("calls at most eight deep: " + method, 1, shape.depth(method) <= 8 ? 1 : 0);
+            boolean constructor = Character.isUpperCase(method.charAt(0));
+            Due.due("makes no object: " + method, 1, constructor || !shape.makesObjects(method) ? 1 : 0);
+        }
+    }
+
     private static void words() throws IOException {
-        String source = Files.readString(Path.of("src/main/java/BreathBand.java"));
+        String source = source();
         Due.due("signs 1 to 127 alone", 0, source.chars().filter(ch -> ch < 1 || ch > 127).count());
         String code = source.replaceAll("(?s)/\\*.*?\\*/", " ").replaceAll("//[^\n]*", " ");
         String[] never = {"\\bthrow\\b", "\\btry\\b", "\\bcatch\\b", "\\bsynchronized\\b", "\\bassert\\b", "->", "::",
